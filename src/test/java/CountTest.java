@@ -5,6 +5,7 @@ public final class CountTest {
     public static void main(String[] args) {
         numbersOfScans();
         depthThroughUnits();
+        scansWithoutSteps();
         check.end();
     }
 
@@ -69,5 +70,14 @@ public final class CountTest {
         check.same("scan()", x.scan(0), 161);
         check.same("count(5) of 60 and 20", x.count(5), 80);
         check.same("count(3)", x.count(3), 161);
+    }
+
+    private static void scansWithoutSteps() {
+        ScanMachine x = Op.program(4);
+        check.same("start() without instructions", x.start(), 0);
+        check.same("scan(3)", x.scan(3), 0);
+        counts(x, "behind a scan without steps", 0, 1, 0, 0, 3, 0);
+        check.same("scan(4)", x.scan(4), 0);
+        counts(x, "behind another one", 0, 2, 0, 0, 7, 0);
     }
 }

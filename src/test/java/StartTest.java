@@ -117,6 +117,16 @@ public final class StartTest {
         x.unit(4, 20);
         x.unit(16, 0);
         check.same("CALL of a later unit", x.start(), 3);
+        ScanMachine y = new ScanMachine();
+        y.unit(4, -1);
+        y.add(Op.ENTER, 0, 0, 0);
+        y.unit(4, 0);
+        check.same("ENTER of itself", y.start(), 3);
+        ScanMachine z = new ScanMachine();
+        z.unit(4, 4);
+        z.add(Op.CALL, 0, 0, 0);
+        z.unit(4, 0);
+        check.same("CALL of itself", z.start(), 3);
     }
 
     private static void cells() {

@@ -8,6 +8,7 @@ public final class StepsTest {
         loops();
         limits();
         unitsThatAreBegun();
+        fullUnit();
         check.end();
     }
 
@@ -147,5 +148,23 @@ public final class StepsTest {
         Op.addAll(w, LEAVE, Op.op(Op.ENTER, 0, 0));
         check.same("an idle unit of many steps", w.start(), 0);
         check.same("count(3) beside it", w.count(3), 1);
+    }
+
+    /** All 256 instructions in one unit, whose ways go to its end. */
+    private static void fullUnit() {
+        int[][] rows = new int[256][];
+        for (int k = 0; k < 126; k++) {
+            rows[2 * k] = PUSH;
+            rows[2 * k + 1] = Op.op(Op.UNLESS, 256);
+        }
+        rows[252] = count(8, 3);
+        rows[253] = next(8, 256);
+        rows[254] = Op.op(Op.GO, 255);
+        rows[255] = back(253);
+        ScanMachine x = Op.program(16, rows);
+        check.same("the 257th instruction", x.add(Op.LEAVE, 0, 0, 0), -1);
+        check.same("start() of a full unit", x.start(), 0);
+        check.same("count(3) of a full unit", x.count(3), 252 + 1 + 3 * 3 + 1);
+        check.same("scan() of a full unit", x.scan(0), 263);
     }
 }
