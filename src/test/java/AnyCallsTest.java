@@ -2,7 +2,7 @@ import java.util.Random;
 
 /** Promises 1 to 9: no call throws, whatever its arguments and whatever came before. */
 public final class AnyCallsTest {
-    private static final int OBJECTS = 2_000, CALLS = 512;
+    private static final int OBJECTS = 4_000, CALLS = 256;
     private static final int[] EDGES = {0, 0, 0, 1, 1, 2, 3, 4, 5, 6, 7, 8, 9, 10, 11, 12, 13, 14, 15, 16, 17, 18, 19, 24, 25,
         64, 65, 256, 4095, 4096, 4097, 20_000, 1_000_000, 100_000_000, -1, -2, Integer.MIN_VALUE, Integer.MAX_VALUE};
 
