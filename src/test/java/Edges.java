@@ -116,6 +116,25 @@ abstract class Edges {
         return x;
     }
 
+    /**
+     * start(): unit 0 has 4 cells at 16, unit 1 has 4 cells and no place; the program of 16 cells has so many
+     * PUSH, the row, and so many STORE.
+     */
+    static int between(int pushes, int[] row, int stores) {
+        ScanMachine x = cells(20);
+        unit(x, 4, 16);
+        unit(x, 4, -1);
+        unit(x, 16, 0);
+        for (int k = 0; k < pushes; k++) {
+            Op.addAll(x, push(0));
+        }
+        Op.addAll(x, row);
+        for (int k = 0; k < stores; k++) {
+            Op.addAll(x, store(0));
+        }
+        return x.start();
+    }
+
     static void counts(ScanMachine x, String when, int... due) {
         for (int which = 0; which < due.length; which++) {
             check.same("count(" + which + ") " + when, x.count(which), due[which]);

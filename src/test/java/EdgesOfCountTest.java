@@ -78,6 +78,9 @@ public final class EdgesOfCountTest extends Edges {
         check.same("one without again", x.count(2), 2);
         x.start();
         check.same("none behind start()", x.count(2), 0);
+        ScanMachine none = started();
+        check.same("a scan without a step", none.scan(0), 0);
+        check.same("which is no fault", none.count(2), 0);
     }
 
     private static void mayTake() {

@@ -26,29 +26,14 @@ public final class EdgesOfInstructionsTest extends Edges {
         check.end();
     }
 
-    /** start(): unit 0 has 4 cells at 16, unit 1 has 4 cells and no place, the program of 16 cells has this row. */
+    /** start() of unit 0 with 4 cells and a place, unit 1 with 4 and none, and a program of 16 with this row. */
     private static void among(int due, int... row) {
-        ScanMachine x = cells(20);
-        unit(x, 4, 16);
-        unit(x, 4, -1);
-        unit(x, 16, 0, row);
-        check.same("start() with " + named(row), x.start(), due);
+        check.same("start() with " + named(row), between(0, row, 0), due);
     }
 
-    /** As above; the numbers that the row takes are pushed first, and what it leaves is stored. */
+    /** The same with no fault: what the row takes is pushed first, and what it leaves is stored. */
     private static void right(int takes, int leaves, int... row) {
-        ScanMachine x = cells(20);
-        unit(x, 4, 16);
-        unit(x, 4, -1);
-        unit(x, 16, 0);
-        for (int k = 0; k < takes; k++) {
-            Op.addAll(x, push(0));
-        }
-        Op.addAll(x, row);
-        for (int k = 0; k < leaves; k++) {
-            Op.addAll(x, store(0));
-        }
-        check.same("start() with " + named(row), x.start(), 0);
+        check.same("start() with " + named(row), between(takes, row, leaves), 0);
     }
 
     private static void inOrder() {
@@ -140,6 +125,10 @@ public final class EdgesOfInstructionsTest extends Edges {
         unit(first, 4, 4, call(0));
         unit(first, 4, 0);
         check.same("start() with a CALL in unit 0", first.start(), 3);
+        ScanMachine itself = cells(8);
+        unit(itself, 4, -1, enter(0, 0));
+        unit(itself, 4, 0);
+        check.same("start() with an ENTER of itself", itself.start(), 3);
         ScanMachine later = cells(8);
         unit(later, 2, 4);
         unit(later, 1, 6, call(2));
@@ -350,6 +339,7 @@ public final class EdgesOfInstructionsTest extends Edges {
         starts(5, "a NEXT that goes nowhere", load(3), next(3, -1));
         starts(5, "a NEXT without a COUNT", load(3), next(3, 2));
         starts(5, "a COUNT without a NEXT", load(3), count(3, 0));
+        starts(5, "a COUNT as the first one, without a NEXT", count(3, 0), load(3));
         starts(5, "a counter behind a LEAVE", load(3), leave(), count(3, 0));
         starts(4, "a counter outside the frame, and an array up to it", take(0, 0, 17), count(16, 0));
         starts(4, "a counter of -1", load(0), count(-1, 0));

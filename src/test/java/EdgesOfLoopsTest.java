@@ -3,6 +3,7 @@ public final class EdgesOfLoopsTest extends Edges {
     public static void main(String[] args) {
         check = new Check("EdgesOfLoopsTest");
         allFromThe13();
+        loopsOfOtherUnits();
         behindThe12();
         counterOfAnOuterLoop();
         beforeThe13();
@@ -24,6 +25,22 @@ public final class EdgesOfLoopsTest extends Edges {
                 count(0, 1), next(0, 3), back(1), count(0, 1), next(0, 6), back(4));
     }
 
+    private static void loopsOfOtherUnits() {
+        check.about("Of each unit it is looked at, in this order, the first fault being the answer");
+        // GO to 1 and 2 goes into a loop of the unit before, and of the code before, but into none of its own
+        ScanMachine x = cells(16);
+        unit(x, 4, -1, count(0, 1), next(0, 4), leave(), back(1));
+        unit(x, 4, 0, go(1), go(2), take(0, 9, 1), leave());
+        check.same("start() with a loop in the unit before", x.start(), 8);
+        x.begin(16);
+        unit(x, 4, 0, push(0), unless(2), go(3), leave());
+        check.same("start() with a loop in the code before", x.start(), 0);
+        x.begin(16);
+        unit(x, 4, -1, count(0, 1), next(0, 4), leave(), back(1));
+        unit(x, 4, 0, go(1), leave());
+        check.same("start() with a GO to 1 behind a unit whose 13 is 1", x.start(), 0);
+    }
+
     private static void behindThe12() {
         check.about("FAULT 7: of 12: right behind it is no 13 with the same a");
         starts(0, "one with the same a", count(3, 1), next(3, 3), back(1));
@@ -34,9 +51,9 @@ public final class EdgesOfLoopsTest extends Edges {
         starts(7, "two of them", count(3, 1), count(3, 1), next(3, 4), back(2));
         starts(7, "two of other counters", count(2, 1), count(3, 1), next(3, 4), back(2));
         starts(7, "one that no way goes to", leave(), count(3, 1));
-        // the next unit's first instruction is not behind it
+        // the next unit's first instruction is not behind it: 7 comes before the 10 of this unit
         ScanMachine x = cells(16);
-        unit(x, 4, -1, count(3, 1));
+        unit(x, 4, -1, push(0), count(3, 1));
         unit(x, 4, 0, next(3, 2), back(0));
         check.same("start() with the 13 in the unit behind", x.start(), 7);
     }

@@ -297,5 +297,18 @@ public final class EdgesOfScanTest extends Edges {
         x.set(0, 1);
         check.same("a shorter one", x.scan(0), 5);
         check.same("count(3) stays", x.count(3), 32);
+        // 20,000 steps that all begin a unit: 20 * (1 + 27 * (1 + 36))
+        ScanMachine y = cells(16);
+        unit(y, 0, -1);
+        int[] many = {36, 27, 20};
+        for (int u = 1; u <= 3; u++) {
+            y.unit(0, u == 3 ? 0 : -1);
+            for (int k = 0; k < many[u - 1]; k++) {
+                Op.addAll(y, enter(u - 1, 0));
+            }
+        }
+        check.same("start() of units alone", y.start(), 0);
+        check.same("count(3) of units alone", y.count(3), 20_000);
+        check.same("scan() of units alone", y.scan(0), 20_000);
     }
 }

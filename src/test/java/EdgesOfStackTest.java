@@ -13,35 +13,19 @@ public final class EdgesOfStackTest extends Edges {
         check.end();
     }
 
-    /** The rows of instructions that go on to the next one, each with what it takes and leaves. */
-    private static final int[][] ROWS = {
-        {0, 1, Op.PUSH, 0}, {0, 1, Op.LOAD, 0}, {1, 0, Op.STORE, 0}, {1, 1, Op.TAKE, 0, 0, 1}, {2, 0, Op.PUT, 0, 0, 1},
-        {0, 1, Op.READ, 0, 0}, {1, 0, Op.WRITE, 0, 0}, {2, 1, Op.TWO, 5}, {1, 1, Op.ONE, 1}, {3, 1, Op.CHOOSE},
-        {0, 0, Op.ENTER, 1, 0}, {0, 0, Op.CALL, 0}, {0, 0, Op.BLOCK, 0, 0}};
-
-    /** start() of so many PUSH, the row, and so many STORE. */
-    private static int between(int pushes, int[] row, int stores) {
-        ScanMachine x = cells(20);
-        unit(x, 4, 16);
-        unit(x, 4, -1);
-        unit(x, 16, 0);
-        for (int k = 0; k < pushes; k++) {
-            Op.addAll(x, push(0));
-        }
-        Op.addAll(x, java.util.Arrays.copyOfRange(row, 2, row.length));
-        for (int k = 0; k < stores; k++) {
-            Op.addAll(x, store(0));
-        }
-        return x.start();
-    }
+    /** The rows of instructions that go on to the next one, and how many numbers each one takes and leaves. */
+    private static final int[][] ROWS = {push(0), load(0), store(0), take(0, 0, 1), put(0, 0, 1), read(0, 0), write(0, 0),
+        two(5), one(1), choose(), enter(1, 0), call(0), block(0, 0)};
+    private static final int[] TAKEN = {0, 0, 1, 1, 2, 0, 1, 2, 1, 3, 0, 0, 0};
+    private static final int[] LEFT = {1, 1, 0, 1, 0, 1, 0, 1, 1, 1, 0, 0, 0};
 
     private static void takenAndLeft() {
         check.about("it takes numbers from the stack, and leaves some on it (taken / left)");
-        for (int[] row : ROWS) {
-            String name = "start() with " + row[2];
-            check.same(name, between(row[0], row, row[1]), 0);
-            check.same(name + " and one more before it", between(row[0] + 1, row, row[1]), 10);
-            check.same(name + " and one more stored", between(row[0], row, row[1] + 1), 8);
+        for (int k = 0; k < ROWS.length; k++) {
+            String name = "start() with " + named(ROWS[k]);
+            check.same(name, between(TAKEN[k], ROWS[k], LEFT[k]), 0);
+            check.same(name + " and one more before it", between(TAKEN[k] + 1, ROWS[k], LEFT[k]), 10);
+            check.same(name + " and one more stored", between(TAKEN[k], ROWS[k], LEFT[k] + 1), 8);
         }
         starts(0, "GO with 1", push(0), go(2), store(0));
         starts(0, "a loop with 1", push(0), count(1, 1), next(1, 4), back(2), store(0));
@@ -74,9 +58,10 @@ public final class EdgesOfStackTest extends Edges {
 
     private static void takesMore() {
         check.about("FAULT 8: it takes more than the depth.");
-        for (int[] row : ROWS) {
-            for (int pushes = 0; pushes < row[0]; pushes++) {
-                check.same("start() with " + row[2] + " behind " + pushes, between(pushes, row, row[1]), 8);
+        for (int k = 0; k < ROWS.length; k++) {
+            for (int pushes = 0; pushes < TAKEN[k]; pushes++) {
+                String name = "start() with " + named(ROWS[k]) + " behind " + pushes;
+                check.same(name, between(pushes, ROWS[k], LEFT[k]), 8);
             }
         }
         starts(8, "UNLESS behind 0", unless(1));
